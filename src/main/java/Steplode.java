@@ -349,7 +349,7 @@ public final class Steplode {
         }
 
         int heightOf(int place) {
-            return isPlace(place) ? heights[place] : 0;
+            return place >= 0 && place < PLACES ? heights[place] : 0;
         }
 
         void setHeight(int place, int height) {
@@ -360,7 +360,7 @@ public final class Steplode {
         }
 
         int flowOf(int place) {
-            return isPlace(place) ? flows[place] : NONE;
+            return place >= 0 && place < PLACES ? flows[place] : NONE;
         }
 
         /** The sides are numbered so that the neighbours come with rising numbers. */
@@ -631,7 +631,7 @@ public final class Steplode {
         }
 
         boolean hasLapsed(int claim) {
-            return daysGone(claim) >= DAYS_TO_LAPSE;
+            return isClaim(claim) && today - begins[claim] >= DAYS_TO_LAPSE;
         }
 
         static int placesBetween(int first, int last) {

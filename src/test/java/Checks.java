@@ -27,11 +27,14 @@ final class Checks {
         same(what, String.valueOf(want), outcome(call));
     }
 
-    /** The exception is due, and nothing that can be asked of the object may be another behind it. */
+    /**
+     * The exception is due, and the object's checksum may not be another behind it: that tells nearly all that it can
+     * be asked in one call, where an object has but 512.
+     */
     static void refused(String what, String want, Steplode field, Call call) {
-        String before = Picture.of(field);
+        long before = field.digest();
         due(what, want, call);
-        same(what + ": nothing is changed", before, Picture.of(field));
+        due(what + ": nothing is changed", before, () -> field.digest());
     }
 
     static void same(String what, String want, String got) {
