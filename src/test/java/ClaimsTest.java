@@ -5,6 +5,7 @@ public final class ClaimsTest {
 
     public static void main(String[] args) {
         stake();
+        stakeAtTheLastPlace();
         stakeWrongNumbers();
         stakeNotAsThingsStand();
         work();
@@ -32,6 +33,13 @@ public final class ClaimsTest {
         Checks.due("6: the last place of the rectangle", 0, () -> field.ofPlace(14, 4));
         Checks.due("6: one farther right", -1, () -> field.ofPlace(15, 4));
         Checks.due("6: a column of four", 4, () -> field.stake(1, 4, 16));
+    }
+
+    private static void stakeAtTheLastPlace() {
+        Steplode field = new Steplode();
+        field.stake(0, 35, 35);
+        Checks.refused("6: the place 35 alone is taken", Checks.STATE, field, () -> field.stake(1, 28, 35));
+        Checks.due("6: beside it", 1, () -> field.stake(1, 27, 34));
     }
 
     private static void stakeWrongNumbers() {
@@ -66,6 +74,7 @@ public final class ClaimsTest {
         field.stake(0, 1, 1);
         Checks.refused("6: a fourth claim", Checks.STATE, field, () -> field.stake(0, 2, 2));
         Checks.due("6: of another it is none", 3, () -> field.stake(1, 2, 2));
+        Checks.refused("6: the place 0 alone is taken", Checks.STATE, field, () -> field.stake(2, 0, 0));
         field.pass(29);
         Checks.refused("6: not lapsed yet", Checks.STATE, field, () -> field.stake(2, 7, 7));
         field.work(3);

@@ -14,7 +14,7 @@ public final class LanguageTest {
             "\\b(split|format|valueOf|join|sort|stream|printf)\\(", "Exact\\(", "\\bSystem\\.(?!arraycopy)"},
         {"5", "\\bstatic \\{", "(?m)^ +private static (?!final|class)\\w+(\\[\\])* \\w+( =|;)"},
         {"6", "\\b(try|catch|finally|synchronized|assert|volatile)\\b", "\\b(equals|hashCode|toString)\\([^)]",
-            "throw new (?!(IllegalStateException|IllegalArgumentException|IndexOutOfBoundsException)\\(\"[a-z ]+\"\\);)"},
+            "throw new (?!(IllegalState|IllegalArgument|IndexOutOfBounds)Exception\\(\"[a-z ]+\"\\);)"},
         {"10", "\"[^\"\\n]*\" \\+", "\\+ \"", "\\bmatch\\b"},
         {"13", "\\b(Random|Thread|currentTimeMillis|nanoTime)\\b"},
     };
@@ -44,7 +44,8 @@ public final class LanguageTest {
 
     /** A method of the class begins four signs in, one of a class inside eight: each ends at a brace as far in. */
     private static void methodsAreShort(String code) {
-        Matcher method = Pattern.compile("(?m)^(    |        )(?! )[^\\n;=]*\\([^\\n;]*\\n?[^\\n;]*\\{\\n").matcher(code);
+        String head = "(?m)^(    |        )(?! )[^\\n;=]*\\([^\\n;]*\\n?[^\\n;]*\\{\\n";
+        Matcher method = Pattern.compile(head).matcher(code);
         while (method.find()) {
             int end = code.indexOf("\n" + method.group(1) + "}", method.end() - 1);
             long lines = end < 0 ? 0 : code.substring(method.start(), end).lines().count();

@@ -40,7 +40,8 @@ public final class ModelTest {
             both("height", place, height, 0);
             calls++;
         }
-        String[] few = {"sample", "sample", "stake", "work", "pass", "heap", "ditch", "way", "worst", "ofPlace", "field"};
+        String[] few = {"sample", "sample", "stake", "work", "pass", "heap", "ditch", "way", "worst", "ofPlace",
+            "field"};
         for (; calls < CALLS; calls++) {
             if (next(5) > 0) {
                 call(few[next(few.length)]);

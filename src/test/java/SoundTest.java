@@ -30,6 +30,11 @@ public final class SoundTest {
         inside(field, "claims", "lasts")[1] = 35;
         Checks.due("22: a place is in two claims", false, () -> field.isSound());
         Checks.due("23: the checksum ends with 0 then", Fields.checksum(field), () -> field.digest());
+        Steplode first = new Steplode();
+        first.stake(0, 0, 0);
+        first.stake(1, 1, 1);
+        inside(first, "claims", "firsts")[1] = 0;
+        Checks.due("22: the place 0 is in two claims", false, () -> first.isSound());
         field.pass(30);
         Checks.due("22: both have lapsed", true, () -> field.isSound());
     }
@@ -67,6 +72,9 @@ public final class SoundTest {
         Steplode field = new Steplode();
         inside(field, "ground", "flows")[35] = 34;
         Checks.due("22: water goes round", false, () -> field.isSound());
+        Steplode first = new Steplode();
+        inside(first, "ground", "flows")[0] = 0;
+        Checks.due("22: that of the place 0 alone", false, () -> first.isSound());
     }
 
     private static int[] inside(Steplode field, String part, String row) throws ReflectiveOperationException {
