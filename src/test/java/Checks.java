@@ -6,6 +6,8 @@ final class Checks {
 
     private static int asked = 0;
     private static int wrong = 0;
+    private static String sentence = "";
+    private static int askedAhead = 0;
 
     private Checks() {
     }
@@ -13,6 +15,16 @@ final class Checks {
     /** A call whose answer is wanted, or the exception that it throws. */
     interface Call {
         Object answer();
+    }
+
+    /** How an object is made, and brought to where the test wants it: always to the same state. */
+    interface Making {
+        Steplode field();
+    }
+
+    /** A call of an object. */
+    interface Asking {
+        Object answerOf(Steplode field);
     }
 
     static String outcome(Call call) {
@@ -27,22 +39,30 @@ final class Checks {
         same(what, String.valueOf(want), outcome(call));
     }
 
-    /**
-     * The exception is due, and the object's checksum may not be another behind it: that tells nearly all that it can
-     * be asked in one call, where an object has but 512.
-     */
-    static void refused(String what, String want, Steplode field, Call call) {
-        long before = field.digest();
-        due(what, want, call);
-        due(what + ": nothing is changed", before, () -> field.digest());
+    /** The exception is due, and behind it the object tells the same as one of which nothing was asked. */
+    static void refused(String what, String want, Making making, Asking asking) {
+        Steplode field = making.field();
+        due(what, want, () -> asking.answerOf(field));
+        same(what + ": nothing is changed", Fields.allThatIsTold(making.field()), Fields.allThatIsTold(field));
     }
 
     static void same(String what, String want, String got) {
         asked++;
         if (!want.equals(got)) {
             wrong++;
-            System.out.println(what + " answered " + got + ", due is " + want);
+            System.out.println(sentence + what + " answered " + got + ", due is " + want);
         }
+    }
+
+    /** What is asked from here on stands for this sentence. */
+    static void beginSentence(String told) {
+        sentence = "[" + told + "] ";
+        askedAhead = asked;
+    }
+
+    static void endSentence() {
+        same("is asked for", "true", "" + (asked > askedAhead));
+        sentence = "";
     }
 
     static void end() {

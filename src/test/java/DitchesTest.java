@@ -10,7 +10,6 @@ public final class DitchesTest {
         claims();
         leastCostAheadOfFewestPlaces();
         longest();
-        refused();
         Checks.end();
     }
 
@@ -116,15 +115,5 @@ public final class DitchesTest {
         field.stake(1, 24, 29);
         Checks.due("19: a long and dear one", 440, () -> field.ditch(0, 0, 35));
         Checks.due("19: its own", 100, () -> field.ditch(1, 0, 35));
-    }
-
-    private static void refused() {
-        Steplode field = new Steplode();
-        int[][] wrong = {{-1, 0, 0}, {4, 0, 0}, {0, -1, 0}, {0, 36, 0}, {0, 0, -1}, {0, 0, 36}, {-1, 36, -1}};
-        for (int[] w : wrong) {
-            String what = w[0] + ", " + w[1] + ", " + w[2];
-            Checks.refused("19: " + what, Checks.INDEX, field, () -> field.ditch(w[0], w[1], w[2]));
-            Checks.refused("20: " + what, Checks.INDEX, field, () -> field.way(w[0], w[1], w[2]));
-        }
     }
 }

