@@ -369,7 +369,12 @@ final class BoundsOfLode {
         field.sample(12);
         Checks.due("sampled with none, above it", 'o', () -> field.row(2).charAt(0));
         Checks.due("ruled out", "......", () -> field.row(0));
-        Checks.due("a sample goes ahead of what is ruled out", "o?*o..", () -> field.row(2));
+        Checks.due("none goes ahead of what is ruled out", "o?*o..", () -> field.row(2));
+        Steplode other = new Steplode();
+        other.sample(15);
+        other.sample(16);
+        Checks.due("the place 15 is ruled out", 1, () -> other.ofPlace(15, 3));
+        Checks.due("grains go ahead of what is ruled out", "..?**.", () -> other.row(2));
     }
 
     private static void noSuchRow() {
@@ -426,6 +431,12 @@ final class BoundsOfLode {
         slope.sample(35);
         Checks.due("one is left", 1, () -> slope.field(2));
         Checks.due("one would be left", 1, () -> slope.worst(0));
+        Steplode rich = new Steplode();
+        rich.lode(12, 200);
+        rich.sample(13);
+        rich.sample(14);
+        Checks.due("one is left, of 200 alone", 1, () -> rich.field(2));
+        Checks.due("with the most grains that can be", 1, () -> rich.worst(12));
         Steplode two = new Steplode();
         two.lode(35, 100);
         two.sample(35);

@@ -1,6 +1,6 @@
 import java.math.BigInteger;
 
-/** Sentences with a boundary on heaps, the mill, what is sound and the checksum: promises 10, 11 and 21 to 23. */
+/** Sentences with a boundary on heaps, the mill and the checksum: promises 10, 11, 21 and 23, and of 15 the rest. */
 final class BoundsOfMill {
     private BoundsOfMill() {
     }
@@ -11,7 +11,7 @@ final class BoundsOfMill {
         ofMill();
         ofField();
         ofHeapAt();
-        ofIsSound();
+        ofAsking();
         ofDigest();
     }
 
@@ -55,13 +55,9 @@ final class BoundsOfMill {
             BoundsOfMill::notSoManyHeaps);
     }
 
-    private static void ofIsSound() {
-        Sentences.tell(22, "the PLACE of the LODE is not RULED OUT", BoundsOfMill::soundWithAllSampled);
-        Sentences.tell(22, "no PLACE is in two CLAIMS that have not LAPSED", BoundsOfMill::soundWithClaimsAnew);
-        Sentences.tell(22, "each SAMPLE is GRAINS as they are", BoundsOfMill::soundBehindTellingAnew);
-        Sentences.tell(22, "no two HEAPS side by side in the BEST ORDER would wait less the other way round",
-            BoundsOfMill::soundWithHeaps);
-        Sentences.tell(22, "water of each PLACE comes to a SINK", BoundsOfMill::soundOnAnyGround);
+    private static void ofAsking() {
+        Sentences.tell(12, "---- what is asked", BoundsOfMill::askingChangesNothing);
+        Sentences.tell(17, "---- what would be (nothing is changed)", BoundsOfMill::whatWouldBeChangesNothing);
     }
 
     private static void ofDigest() {
@@ -259,58 +255,45 @@ final class BoundsOfMill {
         Checks.due("nth 1 of two", 0, () -> Fields.busy().heapAt(1));
     }
 
-    private static void soundWithAllSampled() {
-        int[] lodes = {0, 14, 35};
-        int[] grades = {1, 200};
-        for (int lode : lodes) {
-            for (int grade : grades) {
-                Steplode field = new Steplode();
-                field.lode(lode, grade);
-                for (int place = 0; place < 36; place++) {
-                    field.sample(place);
-                    Checks.due("lode " + lode + " of " + grade + ", sampled to " + place, true, () -> field.isSound());
+    private static void changesNothing(Checks.Asking asking) {
+        Steplode field = Fields.busy();
+        Checks.due("all are answered", "0", () -> asking.answerOf(field));
+        Checks.same("nothing is changed", Fields.allThatIsTold(Fields.busy()), Fields.allThatIsTold(field));
+    }
+
+    private static void askingChangesNothing() {
+        changesNothing(f -> {
+            for (int place = 0; place < 36; place += 5) {
+                for (int what = 0; what <= 6; what++) {
+                    f.ofPlace(place, what);
                 }
+                f.steps(place, 35);
             }
-        }
+            for (int what = 0; what <= 12; what++) {
+                f.field(what);
+            }
+            for (int what = 0; what <= 7; what++) {
+                f.ofClaim(what % 3, what);
+            }
+            f.row(0);
+            return f.row(5).length() - 6;
+        });
     }
 
-    private static void soundWithClaimsAnew() {
-        Steplode field = new Steplode();
-        field.stake(0, 0, 14);
-        Checks.due("a place is in one", true, () -> field.isSound());
-        field.pass(30);
-        field.stake(1, 7, 21);
-        Checks.due("in one behind one that has lapsed", true, () -> field.isSound());
-        field.stake(2, 0, 1);
-        Checks.due("side by side", true, () -> field.isSound());
-        field.pass(100);
-        Checks.due("all have lapsed", true, () -> field.isSound());
-    }
-
-    private static void soundBehindTellingAnew() {
-        Steplode field = new Steplode();
-        field.sample(35);
-        field.height(20, 0);
-        Checks.due("behind another height", true, () -> field.isSound());
-        field.sample(35);
-        field.lode(0, 3);
-        Checks.due("behind another lode", true, () -> field.isSound());
-        field.sample(0);
-        field.sample(35);
-        Checks.due("sampled again", true, () -> field.isSound());
-    }
-
-    private static void soundWithHeaps() {
-        Checks.due("without any", true, () -> new Steplode().isSound());
-        Checks.due("with one", true, () -> withHeaps(50, 1).isSound());
-        Checks.due("that came in the worst order", true, () -> six().isSound());
-        Checks.due("that are as good", true, () -> withHeaps(2, 4, 1, 2, 50, 50, 49, 49).isSound());
-    }
-
-    private static void soundOnAnyGround() {
-        Checks.due("on level ground", true, () -> Fields.level(0).isSound());
-        Checks.due("on the longest stream", true, () -> Fields.longestStream().isSound());
-        Checks.due("on a ring", true, () -> Fields.ring().isSound());
+    private static void whatWouldBeChangesNothing() {
+        changesNothing(f -> {
+            f.bestSample(true);
+            f.bestSample(false);
+            for (int place = 0; place < 36; place++) {
+                f.worst(place);
+                f.ditch(place % 4, 0, place);
+                f.way(place % 4, place, 35);
+            }
+            f.heapAt(0);
+            f.heapAt(1);
+            f.digest();
+            return f.isSound() ? 0 : 1;
+        });
     }
 
     private static void checksumOfANewObject() {
