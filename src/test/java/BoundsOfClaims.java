@@ -76,7 +76,9 @@ final class BoundsOfClaims {
     }
 
     private static void ofField() {
+        Sentences.tell(15, "0 TODAY", BoundsOfClaims::today);
         Sentences.tell(15, "4 CLAIMS that have not LAPSED, 5 CLAIMS ever", BoundsOfClaims::claimsNowAndEver);
+        Sentences.tell(15, "7 FALL, 8 PRICE", BoundsOfClaims::rulesNow);
     }
 
     private static Steplode onDay(int day) {
@@ -562,5 +564,29 @@ final class BoundsOfClaims {
         eight.pass(29);
         Checks.due("none is left", 0, () -> eight.field(4));
         Checks.due("eight ever still", 8, () -> eight.field(5));
+    }
+
+    private static void rulesNow() {
+        Steplode field = new Steplode();
+        Checks.due("fall at first", 10, () -> field.field(7));
+        Checks.due("price at first", 20, () -> field.field(8));
+        field.rules(30, 1);
+        Checks.due("the greatest fall", 30, () -> field.field(7));
+        Checks.due("the least price", 1, () -> field.field(8));
+        field.rules(1, 99);
+        Checks.due("the least fall", 1, () -> field.field(7));
+        Checks.due("the greatest price", 99, () -> field.field(8));
+    }
+
+    private static void today() {
+        Steplode field = new Steplode();
+        Checks.due("at first", 0, () -> field.field(0));
+        for (int times = 1; times <= 20; times++) {
+            int want = 100 * times;
+            field.pass(100);
+            Checks.due("behind " + want + " days", want, () -> field.field(0));
+        }
+        Checks.due("no further", Checks.STATE, () -> field.pass(1));
+        Checks.due("the last day", 2000, () -> field.field(0));
     }
 }

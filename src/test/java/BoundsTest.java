@@ -11,6 +11,7 @@ public final class BoundsTest {
         BoundsOfClaims.all();
         BoundsOfDitches.all();
         BoundsOfMill.all();
+        BoundsOfWhole.all();
         BoundsOfSound.all();
         Sentences.areThoseOfTheDocument();
         Checks.end();
