@@ -721,7 +721,7 @@ public final class Steplode {
             for (int round = 0; round < PLACES && isBetter; round++) {
                 isBetter = false;
                 for (int place = 0; place < PLACES; place++) {
-                    int best = bestOver(ground, fall, place);
+                    int best = bestFrom(ground, fall, place);
                     if (best != NONE && (bests[place] == NONE || best < bests[place])) {
                         bests[place] = best;
                         isBetter = true;
@@ -730,18 +730,18 @@ public final class Steplode {
             }
         }
 
-        private int bestOver(Ground ground, int fall, int place) {
+        private int bestFrom(Ground ground, int fall, int place) {
             int best = NONE;
             for (int side = 0; side < SIDES_OF_A_PLACE; side++) {
-                int over = over(ground, fall, place, Ground.neighbour(place, side));
-                if (over != NONE && (best == NONE || over < best)) {
-                    best = over;
+                int through = bestThrough(ground, fall, place, Ground.neighbour(place, side));
+                if (through != NONE && (best == NONE || through < best)) {
+                    best = through;
                 }
             }
             return best;
         }
 
-        private int over(Ground ground, int fall, int place, int next) {
+        private int bestThrough(Ground ground, int fall, int place, int next) {
             if (!isPlace(next) || bests[next] == NONE) {
                 return NONE;
             }
@@ -754,10 +754,10 @@ public final class Steplode {
         }
 
         int nextAfter(Ground ground, int fall, int place) {
-            int best = bestOver(ground, fall, place);
+            int best = bestFrom(ground, fall, place);
             for (int side = 0; side < SIDES_OF_A_PLACE; side++) {
                 int next = Ground.neighbour(place, side);
-                if (best != NONE && over(ground, fall, place, next) == best) {
+                if (best != NONE && bestThrough(ground, fall, place, next) == best) {
                     return next;
                 }
             }

@@ -58,6 +58,22 @@ final class BoundsOfSound {
         Checks.due("the place 0 is in two", false, () -> field.isSound());
         field.pass(30);
         Checks.due("both have lapsed", true, () -> field.isSound());
+        eachTwoClaims();
+    }
+
+    private static void eachTwoClaims() {
+        for (int one = 0; one < 8; one++) {
+            for (int other = 0; other < one; other++) {
+                Steplode eight = new Steplode();
+                for (int claim = 0; claim < 8; claim++) {
+                    eight.stake(claim % 4, claim, claim);
+                }
+                Checks.due("eight claims, no place in two", true, () -> eight.isSound());
+                inside(eight, "claims", "firsts")[one] = other;
+                inside(eight, "claims", "lasts")[one] = other;
+                Checks.due("the claims " + other + " and " + one + " overlap", false, () -> eight.isSound());
+            }
+        }
     }
 
     private static void samples() {
